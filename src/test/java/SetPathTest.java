@@ -1,34 +1,48 @@
 /** Promise 5. */
 final class SetPathTest {
     public static void main(String[] args) {
-        refusesOtherPaths();
-        setsOnePath();
-        keepsErrorsActivityAndLosses();
+        Check.sentence("If path is not 0 or 1, setPath(path, up) answers false", SetPathTest::refusesOtherPaths);
+        Check.sentence("If path is not 0 or 1, setPath(path, up) changes nothing.", SetPathTest::refusedChangesNothing);
+        Check.sentence("Otherwise UP[path] = up and the call answers true: path 0", SetPathTest::setsPathZero);
+        Check.sentence("Otherwise UP[path] = up and the call answers true: path 1", SetPathTest::setsPathOne);
+        Check.sentence("UP[path] = up: the same value again", SetPathTest::sameValueAgain);
+        Check.sentence("ACTIVE, ERRORS are unchanged, as are PRIMARY, NOW and everything else.", SetPathTest::nothingAnsweredChanges);
+        Check.sentence("LOSE is unchanged", SetPathTest::lossesAreKept);
+        Check.sentence("everything else is unchanged: what has no getter", SetPathTest::nothingHiddenChanges);
         Check.finish();
     }
 
     private static void refusesOtherPaths() {
         AssocStream x = Check.established(1);
-        String before = Check.picture(x);
-        for (int path : new int[] {Check.MIN, -1, 2, 3, Check.MAX}) {
-            Check.due("setPath(" + path + ")", x.setPath(path, false), false);
+        for (int path : Check.NO_PATHS) {
+            Check.due("setPath(" + path + ", false)", x.setPath(path, false), false);
+            Check.due("setPath(" + path + ", true)", x.setPath(path, true), false);
         }
-        Check.due("refused calls change nothing", Check.picture(x), before);
-        x.loseNext(0, 1);
-        x.send(0, true);
-        x.send(0, true);
-        Check.due("path 0 still passes", x.run(1, 0), 1);
-        Check.due("path 1 still passes", x.run(1, 0), 1);
     }
 
-    private static void setsOnePath() {
+    private static void refusedChangesNothing() {
+        for (boolean up : new boolean[] {false, true}) {
+            Situations.all().forEach((name, make) -> Check.changesNothing("refused setPath, " + name, make, x -> {
+                for (int path : Check.NO_PATHS) {
+                    x.setPath(path, up);
+                }
+            }));
+        }
+    }
+
+    private static void setsPathZero() {
         AssocStream x = Check.established(8);
         Check.due("setPath(0, false)", x.setPath(0, false), true);
-        Check.due("setPath(0, false) again", x.setPath(0, false), true);
         x.send(0, true);
         Check.due("path 0 is down", x.run(1, 0), 0);
         Check.due("path 1 is up", x.run(1, 0), 1);
         Check.due("setPath(0, true)", x.setPath(0, true), true);
+        x.send(0, true);
+        Check.due("path 0 is up", x.run(1, 0), 1);
+    }
+
+    private static void setsPathOne() {
+        AssocStream x = Check.established(8);
         Check.due("setPath(1, false)", x.setPath(1, false), true);
         x.send(0, true);
         Check.due("path 0 is up", x.run(1, 0), 1);
@@ -39,28 +53,49 @@ final class SetPathTest {
         Check.due("path 1 is up", x.run(1, 0), 1);
     }
 
-    private static void keepsErrorsActivityAndLosses() {
-        AssocStream x = Check.established(1);
-        x.loseNext(0, 2);
+    private static void sameValueAgain() {
+        AssocStream x = Check.established(8);
+        Check.due("setPath(0, true) when up", x.setPath(0, true), true);
         x.send(0, true);
-        x.run(1, Check.LOST);
-        x.setPath(1, false);
+        Check.due("path 0 is up", x.run(1, 0), 1);
+        Check.due("setPath(0, false)", x.setPath(0, false), true);
+        Check.due("setPath(0, false) when down", x.setPath(0, false), true);
         x.send(0, true);
-        x.run(1, 0);
-        Check.due("path 0 is inactive", x.pathActive(0), false);
-        String before = Check.picture(x);
-        x.setPath(0, false);
-        x.setPath(1, true);
-        Check.due("nothing answered changes", Check.picture(x), before);
-        x.setPath(0, true);
-        x.setPath(1, false);
-        Check.due("nothing answered changes", Check.picture(x), before);
+        Check.due("path 0 is down", x.run(1, 0), 0);
+    }
 
-        AssocStream y = Check.established(8);
-        y.loseNext(0, 1);
-        y.setPath(0, false);
-        y.setPath(0, true);
-        y.send(0, true);
-        Check.due("the loss is kept", y.run(1, 0), 0);
+    private static void nothingAnsweredChanges() {
+        Situations.all().forEach((name, make) -> {
+            AssocStream x = make.get();
+            String before = Check.picture(x);
+            for (int call = 0; call < 8; call++) {
+                x.setPath(call & 1, (call & 2) == 0);
+                Check.due("setPath, " + name, Check.picture(x), before);
+            }
+        });
+    }
+
+    private static void lossesAreKept() {
+        for (boolean up : new boolean[] {false, true}) {
+            AssocStream x = Check.established(8);
+            x.loseNext(0, 3);
+            x.loseNext(1, 2);
+            Check.setBoth(x, up);
+            Check.setBoth(x, true);
+            Check.sendMany(x, 4, 0, true);
+            Check.due("three of four lost on path 0", x.run(1, 0), 1);
+            Check.due("two of three lost on path 1", x.run(1, 0), 1);
+        }
+    }
+
+    private static void nothingHiddenChanges() {
+        Situations.all().forEach((name, make) -> {
+            AssocStream x = make.get();
+            AssocStream y = make.get();
+            Check.setBoth(x, false);
+            Check.setBoth(x, true);
+            Check.setBoth(y, true);
+            Check.sameFuture("down and up again, " + name, x, y);
+        });
     }
 }
