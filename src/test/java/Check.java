@@ -164,22 +164,39 @@ final class Check {
 
     /** A call that changes nothing leaves the object's picture, and what it does later, as that of one left alone. */
     static void changesNothing(String what, Supplier<AssocStream> make, Consumer<AssocStream> call) {
-        AssocStream called = make.get();
-        call.accept(called);
-        sameFuture(what, called, make.get());
-    }
-
-    /** Plays the same calls on both, so that a difference in what has no getter (UP, LOSE, STAMP, ranks) shows. */
-    static void sameFuture(String what, AssocStream got, AssocStream want) {
-        due(what, picture(got), picture(want));
-        for (int step = 0; step < 30; step++) {
-            playStep(got, step);
-            playStep(want, step);
-            due(what + ", step " + step + " later", picture(got), picture(want));
+        AssocStream seen = make.get();
+        call.accept(seen);
+        due(what, picture(seen), picture(make.get()));
+        int now = make.get().counter(AssocStream.C_NOW);
+        for (boolean calm : new boolean[] {true, false}) {
+            AssocStream unseen = make.get();
+            call.accept(unseen);
+            AssocStream alone = make.get();
+            if (!calm) {
+                due(what + ", a foreign echo", disturb(unseen, now), disturb(alone, now));
+            }
+            sameFuture(what, unseen, alone);
         }
     }
 
-    private static void playStep(AssocStream x, int step) {
+    /** Lets a difference in SERVER TAG and in ERRORS show. */
+    private static int disturb(AssocStream x, int now) {
+        x.setPath(0, false);
+        return echo(x, 9, now);
+    }
+
+    /**
+     * Plays the same calls on both, so that a difference in what has no getter (UP, LOSE, STAMP, ranks) shows.
+     * No getter is asked before the end: one that changes something would change both alike.
+     */
+    static void sameFuture(String what, AssocStream got, AssocStream want) {
+        for (int step = 0; step < 30; step++) {
+            due(what + ", step " + step + " later", playStep(got, step), playStep(want, step));
+        }
+        due(what + ", at the end", picture(got), picture(want));
+    }
+
+    private static String playStep(AssocStream x, int step) {
         if (step == 8) {
             x.connect();
         } else if (step == 14) {
@@ -189,11 +206,10 @@ final class Check {
             x.setPath(1, false);
         } else if (step == 24) {
             setBoth(x, true);
-        } else if (step == 27) {
-            echo(x, 9, x.counter(AssocStream.C_NOW));
         }
-        x.send(step % 8, false);
-        x.send(step % 3, step % 2 == 0);
-        x.run(1, step % 5 == 4 ? LOST : step & 3);
+        int ordered = x.send(step % 8, false);
+        int mixed = x.send(step % 3, step % 2 == 0);
+        int delivered = x.run(1, step % 5 == 4 ? LOST : step & 3);
+        return ordered + " " + mixed + " " + delivered;
     }
 }

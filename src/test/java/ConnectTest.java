@@ -72,6 +72,10 @@ final class ConnectTest {
                 Check.due("connect, " + name, Check.picture(x), before.replace("state 0", "state 1"));
             }
         });
+        AssocStream y = Situations.made();
+        Check.echo(y, 9, 0);
+        y.connect();
+        Check.due("the server's tag stays", y.serverTag(), 9);
     }
 
     private static void touchesNoPath() {

@@ -229,7 +229,10 @@ final class ConstructionTest {
 
     private static void objectsAreApart() {
         AssocStream early = Situations.made();
+        String before = Check.picture(early);
         Situations.all().values().forEach(make -> make.get());
-        Check.sameFuture("an object made before others were used", early, Situations.made());
+        Check.due("an object made before others were used", Check.picture(early), before);
+        Check.due("an object made after others were used", Check.picture(Situations.made()), before);
+        Check.sameFuture("the earlier and the later one", early, Situations.made());
     }
 }

@@ -1,6 +1,7 @@
 /** Promise 7; the cookie check itself is in TermsTest. */
 final class InjectEchoTest {
     public static void main(String[] args) {
+        Check.sentence("A cookie echo from outside arrives at the server directly, between rounds", InjectEchoTest::arrivesDirectly);
         Check.sentence("(a) mac != MAC(tag, stamp): C_FORGED + 1; answers ECHO_FORGED.", InjectEchoTest::wrongMac);
         Check.sentence("(a) mac != MAC(tag, stamp): bits above 65535 count", InjectEchoTest::wrongHighBits);
         Check.sentence("(a) mac != MAC(tag, stamp): the mac of another tag, stamp or key", InjectEchoTest::macOfAnother);
@@ -40,6 +41,18 @@ final class InjectEchoTest {
         Check.due(what + ": forged", x.counter(AssocStream.C_FORGED), forged + 1);
         Check.due(what + ": server tag", x.serverTag(), serverTag);
         Check.due(what + ": stale", x.counter(AssocStream.C_STALE), 0);
+    }
+
+    private static void arrivesDirectly() {
+        AssocStream x = Situations.made();
+        Check.setBoth(x, false);
+        x.loseNext(0, 9);
+        x.loseNext(1, 9);
+        Check.due("both paths down", Check.echo(x, 9, 0), AssocStream.ECHO_NEW);
+        Check.due("server tag at once", x.serverTag(), 9);
+        x.run(1, Check.LOST);
+        Check.due("after a round without replies", Check.echo(x, 9, 1), AssocStream.ECHO_DUPLICATE);
+        Check.due("both paths inactive", Check.echo(Situations.bothInactive(), 9, 18), AssocStream.ECHO_BUSY);
     }
 
     private static void wrongMac() {

@@ -5,6 +5,7 @@ final class LoseNextTest {
         Check.sentence("If path is not 0 or 1, loseNext(path, count) changes nothing.", LoseNextTest::refusedChangesNothing);
         Check.sentence("Otherwise LOSE[path] = count, and the call answers true: path 0", LoseNextTest::losesOnPathZero);
         Check.sentence("Otherwise LOSE[path] = count, and the call answers true: path 1", LoseNextTest::losesOnPathOne);
+        Check.sentence("Nothing else changes: LOSE of the other path", LoseNextTest::otherPathKeepsItsLosses);
         Check.sentence("it replaces the old value", LoseNextTest::replacesTheOldCount);
         Check.sentence("negative counts give 0", LoseNextTest::negativeCountsGiveZero);
         Check.sentence("counts above 255 give 255", LoseNextTest::largeCountsGive255);
@@ -51,6 +52,18 @@ final class LoseNextTest {
             x.run(1, 0);
             Check.due("loseNext(1, " + count + ")", x.loseNext(1, count), true);
             Check.due("arrivals on path 1 past " + count + " losses", x.run(1, 0), 16 - count);
+        }
+    }
+
+    private static void otherPathKeepsItsLosses() {
+        for (int last = 0; last < 2; last++) {
+            AssocStream x = Check.established(8);
+            x.loseNext(1 - last, 1 + last);
+            x.loseNext(last, 2 - last);
+            Check.sendMany(x, 3, 0, true);
+            Check.due("two of three lost on path 0", x.run(1, 0), 1);
+            Check.due("one of two lost on path 1", x.run(1, 0), 1);
+            Check.due("and no more", x.run(1, 0), 1);
         }
     }
 
@@ -129,6 +142,10 @@ final class LoseNextTest {
                 each.loseNext(1, 1);
             }
             Check.sameFuture("losses set twice, " + name, x, y);
+            Check.changesNothing("LOSE as it was, " + name, make, z -> {
+                z.loseNext(0, Situations.losses(name, 0));
+                z.loseNext(1, Situations.losses(name, 1));
+            });
         });
         AssocStream z = Situations.bothDown();
         z.loseNext(0, 0);

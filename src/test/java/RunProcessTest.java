@@ -51,10 +51,14 @@ final class RunProcessTest {
     }
 
     private static void reverse() {
-        AssocStream x = Check.established(8);
-        Check.sendMany(x, 16, 0, true);
-        x.run(1, Check.REVERSE);
-        Check.checkLog("unordered", x, "15 14 13 12 11 10 9 8 7 6 5 4 3 2 1 0");
+        for (int count = 1; count <= 16; count++) {
+            AssocStream x = Check.established(8);
+            Check.sendMany(x, count, 0, true);
+            x.run(1, Check.REVERSE);
+            for (int i = 0; i < count; i++) {
+                Check.due("place " + i + " of " + count + " unordered ones", x.deliveredAt(i), count - 1 - i);
+            }
+        }
         AssocStream y = Check.established(8);
         Check.sendMany(y, 3, 2, false);
         Check.sendMany(y, 2, 1, false);

@@ -199,6 +199,11 @@ final class SendTest {
         x.send(0, false);
         x.run(1, Check.REVERSE);
         Check.checkLog("ordered by rank, unordered at once", x, "4 2 1 0 3 5");
+        AssocStream y = Check.established(1);
+        for (int id = 0; id < 16; id++) {
+            y.send(0, id % 3 != 0);
+        }
+        Check.due("unordered ones between take no rank", y.run(1, 0), 16);
     }
 
     private static void countsAndAnswers() {

@@ -8,6 +8,7 @@ final class SetPathTest {
         Check.sentence("UP[path] = up: the same value again", SetPathTest::sameValueAgain);
         Check.sentence("ACTIVE, ERRORS are unchanged, as are PRIMARY, NOW and everything else.", SetPathTest::nothingAnsweredChanges);
         Check.sentence("LOSE is unchanged", SetPathTest::lossesAreKept);
+        Check.sentence("everything else is unchanged: STAMP", SetPathTest::stampIsKept);
         Check.sentence("everything else is unchanged: what has no getter", SetPathTest::nothingHiddenChanges);
         Check.finish();
     }
@@ -88,6 +89,19 @@ final class SetPathTest {
         }
     }
 
+    private static void stampIsKept() {
+        for (int path = 0; path < 2; path++) {
+            AssocStream x = Situations.replyLost(2);
+            x.setPath(path, true);
+            x.run(1, 0);
+            Check.due("the cookie is as old as it was", x.clientState(), AssocStream.COOKIE_WAIT);
+            AssocStream y = Situations.replyLost(1);
+            y.setPath(path, true);
+            y.run(1, 0);
+            Check.due("the cookie is as young as it was", y.clientState(), AssocStream.ESTABLISHED);
+        }
+    }
+
     private static void nothingHiddenChanges() {
         Situations.all().forEach((name, make) -> {
             AssocStream x = make.get();
@@ -96,6 +110,10 @@ final class SetPathTest {
             Check.setBoth(x, true);
             Check.setBoth(y, true);
             Check.sameFuture("down and up again, " + name, x, y);
+            Check.changesNothing("UP as it was, " + name, make, z -> {
+                z.setPath(0, Situations.isUp(name, 0));
+                z.setPath(1, Situations.isUp(name, 1));
+            });
         });
     }
 }

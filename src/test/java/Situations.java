@@ -16,8 +16,10 @@ final class Situations {
         all.put("cookie wait, failed over", Situations::cookieWaitFailedOver);
         all.put("cookie echoed, cookie at its last round", () -> cookieEchoed(2));
         all.put("cookie echoed, cookie too old", () -> cookieEchoed(3));
+        all.put("cookie accepted, its reply lost, at its last round", () -> replyLost(1));
+        all.put("cookie accepted, its reply lost, too old", () -> replyLost(2));
         all.put("established, idle", () -> Check.established(1));
-        all.put("established, losses wait on both paths", Situations::lossesWait);
+        all.put("established, losses wait on either path", Situations::lossesWait);
         all.put("established, both paths down", Situations::bothDown);
         all.put("messages held behind a lost one", Situations::held);
         all.put("received, but the reply was lost", Situations::receivedUnacked);
@@ -27,6 +29,16 @@ final class Situations {
         all.put("limit reached, last window outstanding", Situations::limitOutstanding);
         all.put("limit reached, all delivered", Situations::limitDelivered);
         return all;
+    }
+
+    /** UP has no getter, so it is told here. */
+    static boolean isUp(String name, int path) {
+        return name.contains("failed over") ? path == 1 : !name.contains("both paths");
+    }
+
+    /** LOSE has no getter, so it is told here. */
+    static int losses(String name, int path) {
+        return name.contains("losses wait") ? 3 - path : 0;
     }
 
     static AssocStream made() {
@@ -41,10 +53,13 @@ final class Situations {
         return x;
     }
 
-    /** The server has accepted tag 9 before the client of tag 7 came. */
+    /** The server has accepted tag 9 before the client of tag 7 came; a forged echo and a stale one came too. */
     static AssocStream aborted() {
         AssocStream x = made();
         x.send(2, false);
+        Check.echo(x, 0, 0);
+        Check.echo(x, 9, 0);
+        x.run(3, 0);
         Check.echo(x, 9, 0);
         x.connect();
         x.run(2, 0);
@@ -74,6 +89,15 @@ final class Situations {
         x.setPath(0, false);
         x.run(age - 1, 0);
         x.setPath(0, true);
+        return x;
+    }
+
+    /** The server has the client's tag, but the client has not heard of it in this many rounds; LIFE is 2. */
+    static AssocStream replyLost(int rounds) {
+        AssocStream x = new AssocStream(Check.KEY, 2, 3, 7);
+        x.connect();
+        x.run(1, 0);
+        x.run(rounds, Check.LOST);
         return x;
     }
 

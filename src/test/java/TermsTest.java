@@ -93,8 +93,12 @@ final class TermsTest {
             }
         });
         AssocStream y = Check.established(1);
-        y.send(0, false);
-        y.run(1, 0);
+        for (int id = 0; id < 128; id++) {
+            y.send(id % 8, id % 2 == 0);
+            Check.due("TX of " + id, y.transmissions(id), 0);
+            Check.due("ACKED of " + id, y.isAcked(id), false);
+            y.run(1, 0);
+        }
         Check.due("not RECEIVED at first, so no duplicate", y.counter(AssocStream.C_DUPLICATES), 0);
     }
 
@@ -164,7 +168,7 @@ final class TermsTest {
         x.run(16, 0);
         Check.setBoth(x, true);
         x.run(1, 0);
-        Check.due("the echo was stale", x.counter(AssocStream.C_STALE), 1);
+        Check.due("the echo was stale, as one before", x.counter(AssocStream.C_STALE), 2);
         Check.due("after a stale echo", x.serverTag(), 9);
         Check.echo(x, 0, x.counter(AssocStream.C_NOW));
         Check.due("after an echo of tag 0", x.serverTag(), 9);
