@@ -1,6 +1,7 @@
 /** The sections 'What it is' and 'Terms', as far as they name edges that more than one promise leans on. */
 final class TermsTest {
     public static void main(String[] args) {
+        Check.sentence("Time moves only inside run().", TermsTest::timeMovesInRunAlone);
         Check.sentence("The round counter NOW starts at 0, and each round first adds 1 to it, so the first round is round 1.",
             TermsTest::firstRoundIsRoundOne);
         Check.sentence("Its id is the number of messages accepted before it (0, 1, 2, ...).", TermsTest::idsCountTheAccepted);
@@ -20,6 +21,25 @@ final class TermsTest {
         Check.sentence("is STALE when n - t > LIFE: an injected cookie", TermsTest::injectedCookieAges);
         Check.sentence("is STALE when n - t > LIFE: the client's cookie", TermsTest::ownCookieAges);
         Check.finish();
+    }
+
+    private static void timeMovesInRunAlone() {
+        Situations.all().forEach((name, make) -> {
+            AssocStream x = make.get();
+            int now = x.counter(AssocStream.C_NOW);
+            x.connect();
+            x.send(0, false);
+            x.send(8, true);
+            x.setPath(0, false);
+            x.setPath(2, true);
+            x.loseNext(1, 4);
+            x.loseNext(-1, 4);
+            x.injectEcho(9, now, 0);
+            Check.echo(x, 9, now);
+            Check.echo(x, 9, now - 3);
+            Check.picture(x);
+            Check.due("NOW, " + name, x.counter(AssocStream.C_NOW), now);
+        });
     }
 
     private static void firstRoundIsRoundOne() {
